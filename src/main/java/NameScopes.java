@@ -416,7 +416,7 @@ public final class NameScopes {
         other = former;
     }
 
-    /** How many uses would have another outcome without an import; where that must be found out, the other facts are changed. */
+    /** How many uses would have another outcome without an import; finding it out changes the other facts. */
     private int lossWithout(int number) {
         if (now.losses[number] == NONE) {
             int loss = 0;
@@ -499,7 +499,7 @@ public final class NameScopes {
         return found;
     }
 
-    /** What has been told: scopes, declarations, imports and uses. After a change, settle() brings the layers up to date. */
+    /** What has been told. After a change, settle() brings the layers up to date. */
     private static final class Facts {
         private int scopes = 1;
         private final int[] parents = new int[MAX_SCOPES];
@@ -755,7 +755,7 @@ public final class NameScopes {
             return firstLayer(useScope[use], useName[use]);
         }
 
-        /** 0 for a resolved use, 1 for an unresolved one, 2 and 3 for one that is ambiguous by single or full imports. */
+        /** 0 if resolved, 1 if unresolved, 2 or 3 if ambiguous by single or by full imports. */
         int stateOfUse(int use) {
             int size = Integer.bitCount(outcome(use));
             if (size < 2) {
@@ -857,7 +857,7 @@ public final class NameScopes {
         }
     }
 
-    /** What follows from the facts: for each scope and name (a cell) the declarations that it offers, and its three layers. */
+    /** What follows from the facts: for each cell, a scope and a name, what is offered and its three layers. */
     private static final class Layers {
         private final int[] offered = new int[CELLS];
         private final int[] own = new int[CELLS];
@@ -896,20 +896,22 @@ public final class NameScopes {
             }
         }
 
-        /** Passes pairs on until nothing is added; each round but the last adds a pair, so there is an end in a circle, too. */
+        /** Passes pairs on from scopes that have grown; each round but the last adds a pair, so circles end, too. */
         void passOnAll(Facts facts) {
-            boolean grew = true;
-            for (int round = 0; round <= CELLS * MAX_DECLARATIONS && grew; round++) {
-                grew = false;
+            int grown = (1 << MAX_SCOPES) - 1;
+            for (int round = 0; round <= CELLS * MAX_DECLARATIONS && grown != 0; round++) {
+                int growing = 0;
                 for (int i = 0; i < facts.imports; i++) {
-                    if (facts.passed[i] != 0 && passOn(facts, i)) {
-                        grew = true;
+                    boolean isDue = ((grown | growing) >> facts.from[i] & 1) != 0;
+                    if (isDue && facts.passed[i] != 0 && passOn(facts, i)) {
+                        growing |= 1 << facts.into[i];
                     }
                 }
+                grown = growing;
             }
         }
 
-        /** Passes on what one import brings, but for the names that its scope declares; tells whether that is more than before. */
+        /** Passes on what one import brings, but for the names that its scope declares; tells whether that is new. */
         private boolean passOn(Facts facts, int number) {
             int into = facts.into[number];
             int from = facts.from[number];

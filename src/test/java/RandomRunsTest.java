@@ -151,7 +151,7 @@ public final class RandomRunsTest {
             case 12: both("use", scope(), name()); break;
             case 13:
                 int sort = pick(3);
-                both("remove", sort, pick(sort == 0 ? program.count(1) : sort == 1 ? program.count(2) : program.count(3)));
+                both("remove", sort, pick(sort >= 0 && sort < 3 ? program.count(1 + sort) : 1));
                 break;
             case 14: text(); break;
             default: both("append", random.nextInt(4) == 0 ? random.nextInt(256) - 64 : 33 + random.nextInt(94));
@@ -186,7 +186,35 @@ public final class RandomRunsTest {
         }
     }
 
-    private void run() {
+    /** Fills every list to its limit, so that the calls after it meet the ends of all rows. */
+    private void fill() {
+        while (program.count(0) < 16) {
+            both("addScope", random.nextInt(program.count(0)));
+        }
+        while (program.count(1) < 30) {
+            both("declare", random.nextInt(16), random.nextInt(26), flag());
+        }
+        while (program.count(2) < 20) {
+            if (flag()) {
+                both("importOne", random.nextInt(16), random.nextInt(16), random.nextInt(26), name(), flag());
+            } else {
+                both("importAll", random.nextInt(16), random.nextInt(16), mask(), flag());
+            }
+        }
+        while (program.count(3) < 30) {
+            both("use", random.nextInt(16), random.nextInt(26));
+        }
+        for (int d = 0; d < 30; d++) {
+            both("freeName", d);
+            both("rename", d, random.nextInt(26));
+        }
+        both("digest");
+    }
+
+    private void run(boolean filled) {
+        if (filled) {
+            fill();
+        }
         int calls = 60 + random.nextInt(140);
         for (int n = 0; n < calls; n++) {
             if (random.nextInt(3) > 0 && n < calls * 3 / 4) {
@@ -208,9 +236,10 @@ public final class RandomRunsTest {
         int runs = args.length > 0 ? Integer.parseInt(args[0]) : RUNS;
         long first = args.length > 1 ? Long.parseLong(args[1]) : 0;
         for (int seed = 0; seed < runs; seed++) {
-            new RandomRunsTest(first + seed).run();
+            new RandomRunsTest(first + seed).run(seed % 25 == 0);
         }
-        System.out.println("renamed " + met[0] + ", clashes " + met[1] + ", captured " + met[2] + ", capturing " + met[3]);
+        System.out.println("renamed " + met[0] + ", clashes " + met[1]
+            + ", captured " + met[2] + ", capturing " + met[3]);
         for (long m : met) {
             wrong += m == 0 ? 1 : 0;
         }
