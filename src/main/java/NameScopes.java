@@ -457,7 +457,7 @@ public final class NameScopes {
         for (int u = 0; u < now.uses; u++) {
             int before = now.outcome(u);
             // the later declarations have moved down by one, and so do their bits
-            int renumbered = before & lower | before >> 1 & ~lower;
+            int renumbered = (before & lower) | ((before >> 1) & ~lower);
             boolean lost = (before >> number & 1) != 0;
             changed += lost || renumbered != other.outcome(u) ? 1 : 0;
         }
@@ -484,7 +484,8 @@ public final class NameScopes {
     private int firstChanged(int declaration, boolean resolvedToIt) {
         for (int u = 0; u < now.uses; u++) {
             int before = now.outcome(u);
-            if (before == 1 << declaration == resolvedToIt && before != other.outcome(u)) {
+            boolean wasResolvedToIt = before == 1 << declaration;
+            if (wasResolvedToIt == resolvedToIt && before != other.outcome(u)) {
                 return u;
             }
         }
@@ -1107,7 +1108,7 @@ public final class NameScopes {
         private int exceptedFrom(int start) {
             int names = 0;
             for (int at = start; at < length && codeAt(at) >= 'a'; at++) {
-                names |= 1 << codeAt(at) - 'a';
+                names |= 1 << (codeAt(at) - 'a');
             }
             return names;
         }
