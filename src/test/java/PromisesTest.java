@@ -1,70 +1,5 @@
 /** The promises of the document one by one: ordinary inputs, the edges that it names, and wrong inputs. */
-public final class PromisesTest {
-    private static final int A = 0, B = 1, C = 2, D = 3;
-    private static final int LOW = Integer.MIN_VALUE, HIGH = Integer.MAX_VALUE;
-    private static final Class<?> INDEX = IndexOutOfBoundsException.class;
-    private static final Class<?> ARGUMENT = IllegalArgumentException.class;
-    private static final Class<?> STATE = IllegalStateException.class;
-
-    private static int wrong = 0;
-    private static int asked = 0;
-
-    private static void is(String what, double got, double due) {
-        asked++;
-        if (got != due) {
-            wrong++;
-            System.out.println(what + " answered " + got + ", due is " + due);
-        }
-    }
-
-    /** The call throws just this exception, and the state is as before. */
-    private static void refuses(String what, NameScopes x, Class<?> due, Runnable call) {
-        asked++;
-        long before = x.digest();
-        Class<?> got = null;
-        try {
-            call.run();
-        } catch (RuntimeException e) {
-            got = e.getClass();
-        }
-        if (got != due) {
-            wrong++;
-            System.out.println(what + " threw " + got + ", due is " + due);
-        }
-        if (x.digest() != before) {
-            wrong++;
-            System.out.println(what + " threw, and changed something");
-        }
-    }
-
-    private static void put(NameScopes x, String text) {
-        for (char c : text.toCharArray()) {
-            x.append(c);
-        }
-    }
-
-    /** A new object with the items of some texts, each of which is loaded. */
-    private static NameScopes made(String... texts) {
-        NameScopes x = new NameScopes();
-        for (String text : texts) {
-            put(x, text);
-            x.load();
-        }
-        return x;
-    }
-
-    private static int name(char letter) {
-        return letter - 'a';
-    }
-
-    private static int mask(String letters) {
-        int mask = 0;
-        for (char c : letters.toCharArray()) {
-            mask |= 1 << c - 'a';
-        }
-        return mask;
-    }
-
+public final class PromisesTest extends Checks {
     private static void newObject() {
         NameScopes x = new NameScopes();
         is("1 NONE", NameScopes.NONE, -1);
@@ -753,7 +688,6 @@ public final class PromisesTest {
         parent();
         resolvedShare();
         digest();
-        System.out.println(asked + " answers asked, " + wrong + " wrong");
-        System.exit(wrong == 0 ? 0 : 1);
+        end();
     }
 }

@@ -53,7 +53,7 @@ public final class RandomRunsTest {
         return random.nextInt(1 << 26) & random.nextInt(1 << 26) & random.nextInt(1 << 26);
     }
 
-    private static Object answer(Object object, String method, Object... args) {
+    static Object answer(Object object, String method, Object... args) {
         for (Method m : object.getClass().getMethods()) {
             if (m.getName().equals(method) && m.getParameterCount() == args.length
                     && m.getDeclaringClass() == object.getClass()) {
