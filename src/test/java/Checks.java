@@ -73,7 +73,10 @@ abstract class Checks {
         return new int[] {LOW, low - 1, high + 1, HIGH};
     }
 
-    /** A hash of all that can be asked of an object, which is more than its digest tells. */
+    /**
+     * A hash of all that can be asked of an object, which is more than its digest tells. It takes more than the
+     * 512 calls that the document promises: this class does not count its calls, and the tests rest on that.
+     */
     static long everything(NameScopes x) {
         long hash = x.digest();
         for (int scope = 0; scope < x.count(0); scope++) {
