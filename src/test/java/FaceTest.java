@@ -119,6 +119,29 @@ public final class FaceTest {
         for (char c : Files.readString(SOURCE).toCharArray()) {
             need(c < 127, "the source has the sign " + (int) c);
         }
+        objects(code);
+        lengths(code);
+    }
+
+    /** No call makes an object, but for an exception: whatever is made belongs to a field or to the constructor. */
+    private static void objects(String code) {
+        String calls = code.replaceFirst("(?s)public NameScopes\\(\\) \\{.*?\\}", "")
+            .replaceAll("private final [\\w\\[\\]]+ \\w+ = new [^;]*;", "").replaceAll("throw new ", "throw ");
+        Matcher made = Pattern.compile("[^\n]*(\\bnew\\b|\\.clone\\(|Arrays\\.copy)[^\n]*").matcher(calls);
+        need(!made.find(), "an object is made in a call");
+    }
+
+    /** A method begins with a line that ends in a brace behind its parameters, and ends where the indent is the same. */
+    private static void lengths(String code) {
+        Matcher method = Pattern.compile("(?m)^( +)(?!if|for|while|switch|else)[a-z][^;={}]*\\)[^;={}]*\\{\n(?s:.*?)\n\\1\\}")
+            .matcher(code);
+        int found = 0;
+        while (method.find()) {
+            found++;
+            long lines = method.group().lines().count();
+            need(lines <= 60, "too long, " + lines + " lines: " + method.group().lines().findFirst().orElse(""));
+        }
+        need(found > 80, "only " + found + " methods were found");
     }
 
     public static void main(String[] args) throws IOException, IllegalAccessException {
